@@ -1,0 +1,52 @@
+import java.util.ArrayList;
+import java.util.List;
+
+/** All that can be seen of an object, gathered without changing it. */
+final class Answers {
+    private Answers() {
+    }
+
+    /** Every index that can be valid, those next to them, and far ones. */
+    static int[] wideArguments() {
+        List<Integer> all = new ArrayList<>();
+        for (int i = -3; i <= 131; i++) {
+            all.add(i);
+        }
+        int[] far = {-128, 256, 65536, -65536, Integer.MIN_VALUE, Integer.MIN_VALUE + 1,
+            Integer.MAX_VALUE - 1, Integer.MAX_VALUE};
+        for (int a : far) {
+            all.add(a);
+        }
+        return all.stream().mapToInt(Integer::intValue).toArray();
+    }
+
+    static int[] narrowArguments() {
+        return new int[] {Integer.MIN_VALUE, -1, 0, 1, 2, 3, 4, 5, 6, 7, 8, 9, Integer.MAX_VALUE};
+    }
+
+    static List<Object> of(InducedSorter x, int[] arguments) {
+        List<Object> all = new ArrayList<>();
+        all.add("length " + x.length());
+        all.add("isBuilt " + x.isBuilt());
+        all.add("count " + x.count());
+        all.add("rangeStart " + x.rangeStart());
+        all.add("distinctSubstrings " + x.distinctSubstrings());
+        all.add("longestRepeat " + x.longestRepeat());
+        for (int a : arguments) {
+            all.add("symbolAt(" + a + ") " + x.symbolAt(a));
+            all.add("suffixAt(" + a + ") " + x.suffixAt(a));
+            all.add("rankOf(" + a + ") " + x.rankOf(a));
+            all.add("lcpAt(" + a + ") " + x.lcpAt(a));
+            all.add("locate(" + a + ") " + x.locate(a));
+        }
+        return all;
+    }
+
+    /** Compares one by one, so that a failure names the call and not the whole list. */
+    static void compare(String where, List<Object> got, List<Object> due) {
+        Check.same(where + ": number of answers", got.size(), due.size());
+        for (int i = 0; i < Math.min(got.size(), due.size()); i++) {
+            Check.same(where, got.get(i), due.get(i));
+        }
+    }
+}
