@@ -1,8 +1,12 @@
 import java.util.ArrayList;
 import java.util.List;
+import java.util.function.IntUnaryOperator;
 
 /** All that can be seen of an object, gathered without changing it. */
 final class Answers {
+    private static final int NONE = InducedSorter.NONE;
+    private static final int[] WIDE = wideArguments();
+
     private Answers() {
     }
 
@@ -42,11 +46,54 @@ final class Answers {
         return all;
     }
 
+    static List<Object> view(InducedSorter x) {
+        return of(x, WIDE);
+    }
+
     /** Compares one by one, so that a failure names the call and not the whole list. */
     static void compare(String where, List<Object> got, List<Object> due) {
         Check.same(where + ": number of answers", got.size(), due.size());
         for (int i = 0; i < Math.min(got.size(), due.size()); i++) {
             Check.same(where, got.get(i), due.get(i));
         }
+    }
+
+    static void unchanged(String where, InducedSorter x, List<Object> before) {
+        compare(where + " changed something", view(x), before);
+    }
+
+    /** Only asks: for tests of what asking may change. */
+    static void ask(IntUnaryOperator method) {
+        for (int a : WIDE) {
+            method.applyAsInt(a);
+        }
+    }
+
+    /** The answers for 0, 1, ... are the due ones, and NONE for every other argument. */
+    static void are(String where, IntUnaryOperator method, int... due) {
+        for (int a : WIDE) {
+            Check.same(where + " for " + a, method.applyAsInt(a), a >= 0 && a < due.length ? due[a] : NONE);
+        }
+    }
+
+    static void nothingIsBuilt(String where, InducedSorter x) {
+        Check.same(where + ": isBuilt()", x.isBuilt(), false);
+        indexIsSilent(where, x);
+    }
+
+    static void indexIsSilent(String where, InducedSorter x) {
+        Check.same(where + ": count()", x.count(), NONE);
+        Check.same(where + ": rangeStart()", x.rangeStart(), NONE);
+        Check.same(where + ": distinctSubstrings()", x.distinctSubstrings(), NONE);
+        Check.same(where + ": longestRepeat()", x.longestRepeat(), NONE);
+        are(where + ": suffixAt", x::suffixAt);
+        are(where + ": rankOf", x::rankOf);
+        are(where + ": lcpAt", x::lcpAt);
+        are(where + ": locate", x::locate);
+    }
+
+    static void textIsEmpty(String where, InducedSorter x) {
+        Check.same(where + ": length()", x.length(), 0);
+        are(where + ": symbolAt", x::symbolAt);
     }
 }

@@ -1,4 +1,5 @@
 import java.util.List;
+import java.util.function.IntUnaryOperator;
 
 /** One method per promise of the document: ordinary inputs, the edges it names, and wrong inputs. */
 public final class PromiseTest {
@@ -29,67 +30,6 @@ public final class PromiseTest {
         Check.end();
     }
 
-    // Letters stand for symbols: a is 0, b is 1, and so on.
-    private static InducedSorter holding(String text) {
-        InducedSorter x = new InducedSorter(128, 26);
-        feed(x, text);
-        return x;
-    }
-
-    private static InducedSorter built(String text) {
-        InducedSorter x = holding(text);
-        Check.same("build() of " + text, x.build(), true);
-        return x;
-    }
-
-    private static InducedSorter searching(String text, String pattern) {
-        InducedSorter x = built(text);
-        search(x, pattern);
-        return x;
-    }
-
-    private static void feed(InducedSorter x, String text) {
-        for (char c : text.toCharArray()) {
-            Check.same("append of " + c, x.append(c - 'a'), true);
-        }
-    }
-
-    private static void search(InducedSorter x, String pattern) {
-        x.patClear();
-        for (char c : pattern.toCharArray()) {
-            Check.same("patAppend of " + c, x.patAppend(c - 'a'), true);
-        }
-    }
-
-    private static List<Object> view(InducedSorter x) {
-        return Answers.of(x, WIDE);
-    }
-
-    private static void unchanged(String where, InducedSorter x, List<Object> before) {
-        Answers.compare(where + " changed something", view(x), before);
-    }
-
-    private static void nothingIsBuilt(String where, InducedSorter x) {
-        Check.same(where + ": isBuilt()", x.isBuilt(), false);
-        Check.same(where + ": count()", x.count(), NONE);
-        Check.same(where + ": rangeStart()", x.rangeStart(), NONE);
-        Check.same(where + ": distinctSubstrings()", x.distinctSubstrings(), NONE);
-        Check.same(where + ": longestRepeat()", x.longestRepeat(), NONE);
-        for (int a : WIDE) {
-            Check.same(where + ": suffixAt(" + a + ")", x.suffixAt(a), NONE);
-            Check.same(where + ": rankOf(" + a + ")", x.rankOf(a), NONE);
-            Check.same(where + ": lcpAt(" + a + ")", x.lcpAt(a), NONE);
-            Check.same(where + ": locate(" + a + ")", x.locate(a), NONE);
-        }
-    }
-
-    private static void textIsEmpty(String where, InducedSorter x) {
-        Check.same(where + ": length()", x.length(), 0);
-        for (int a : WIDE) {
-            Check.same(where + ": symbolAt(" + a + ")", x.symbolAt(a), NONE);
-        }
-    }
-
     private static void promise1Construction() {
         int[][] capacities = {{MIN, 8}, {MIN + 1, 8}, {-1, 8}, {0, 8}, {1, 8}, {7, 8}, {8, 8}, {9, 9}, {64, 64},
             {127, 127}, {128, 128}, {129, 128}, {256, 128}, {MAX - 1, 128}, {MAX, 128}};
@@ -106,8 +46,8 @@ public final class PromiseTest {
     private static void capacityIs(int given, int due) {
         String where = "capacity " + given;
         InducedSorter x = new InducedSorter(given, 4);
-        textIsEmpty(where, x);
-        nothingIsBuilt(where, x);
+        Answers.textIsEmpty(where, x);
+        Answers.nothingIsBuilt(where, x);
         for (int i = 0; i < due; i++) {
             Check.same(where + ": append " + i, x.append(i % 4), true);
             Check.same(where + ": patAppend " + i, x.patAppend(i % 4), true);
@@ -127,8 +67,8 @@ public final class PromiseTest {
     private static void sigmaIs(int given, int due) {
         String where = "sigma " + given;
         InducedSorter x = new InducedSorter(128, given);
-        textIsEmpty(where, x);
-        nothingIsBuilt(where, x);
+        Answers.textIsEmpty(where, x);
+        Answers.nothingIsBuilt(where, x);
         for (int s = 0; s < due; s++) {
             Check.same(where + ": append(" + s + ")", x.append(s), true);
             Check.same(where + ": patAppend(" + s + ")", x.patAppend(s), true);
@@ -144,43 +84,43 @@ public final class PromiseTest {
     }
 
     private static void promise2Clear() {
-        InducedSorter x = searching("banana", "ana");
+        InducedSorter x = Letters.searching("banana", "ana");
         x.clear();
-        textIsEmpty("clear() when built", x);
-        nothingIsBuilt("clear() when built", x);
+        Answers.textIsEmpty("clear() when built", x);
+        Answers.nothingIsBuilt("clear() when built", x);
         Check.same("build() after clear()", x.build(), false);
         x.clear();
-        textIsEmpty("clear() when empty", x);
-        nothingIsBuilt("clear() when empty", x);
-        feed(x, "xanax");
-        nothingIsBuilt("append after clear()", x);
+        Answers.textIsEmpty("clear() when empty", x);
+        Answers.nothingIsBuilt("clear() when empty", x);
+        Letters.feed(x, "xanax");
+        Answers.nothingIsBuilt("append after clear()", x);
         Check.same("build() of the next text", x.build(), true);
         Check.same("count() with the pattern kept over clear()", x.count(), 1);
         Check.same("locate(0) with the pattern kept over clear()", x.locate(0), 1);
-        Check.same("append of the greatest symbol after clear()", x.append(25), true);
-        Check.same("append of sigma after clear()", x.append(26), false);
+        Check.same("append of the greatest symbol after clear()", x.append(63), true);
+        Check.same("append of sigma after clear()", x.append(64), false);
 
-        InducedSorter y = holding("abc");
+        InducedSorter y = Letters.holding("abc");
         y.clear();
-        textIsEmpty("clear() when not built", y);
-        nothingIsBuilt("clear() when not built", y);
+        Answers.textIsEmpty("clear() when not built", y);
+        Answers.nothingIsBuilt("clear() when not built", y);
 
         InducedSorter z = new InducedSorter(8, 1);
         z.clear();
-        textIsEmpty("clear() of a new object", z);
-        nothingIsBuilt("clear() of a new object", z);
+        Answers.textIsEmpty("clear() of a new object", z);
+        Answers.nothingIsBuilt("clear() of a new object", z);
     }
 
     private static void promise3Append() {
-        InducedSorter x = searching("banana", "an");
-        List<Object> before = view(x);
-        int[] wrong = {-1, 26, 27, 64, MIN, MAX};
+        InducedSorter x = Letters.searching("banana", "an");
+        List<Object> before = Answers.view(x);
+        int[] wrong = {-1, 64, 65, 128, MIN, MAX};
         for (int s : wrong) {
             Check.same("append(" + s + ")", x.append(s), false);
-            unchanged("refused append(" + s + ")", x, before);
+            Answers.unchanged("refused append(" + s + ")", x, before);
         }
         Check.same("append(25)", x.append(25), true);
-        nothingIsBuilt("append when built", x);
+        Answers.nothingIsBuilt("append when built", x);
         Check.same("length() after append", x.length(), 7);
         String text = "bananaz";
         for (int i = 0; i < 7; i++) {
@@ -190,15 +130,15 @@ public final class PromiseTest {
         Check.same("count() with the pattern kept over append", x.count(), 2);
 
         InducedSorter full = new InducedSorter(8, 2);
-        feed(full, "abababab");
-        List<Object> notBuilt = view(full);
+        Letters.feed(full, "abababab");
+        List<Object> notBuilt = Answers.view(full);
         Check.same("append to the full text", full.append(1), false);
-        unchanged("append to the full text", full, notBuilt);
+        Answers.unchanged("append to the full text", full, notBuilt);
         full.build();
-        List<Object> whenBuilt = view(full);
+        List<Object> whenBuilt = Answers.view(full);
         Check.same("append to the full built text", full.append(0), false);
         Check.same("append(2) to the full built text", full.append(2), false);
-        unchanged("append to the full built text", full, whenBuilt);
+        Answers.unchanged("append to the full built text", full, whenBuilt);
     }
 
     private static void promise4Length() {
@@ -238,18 +178,18 @@ public final class PromiseTest {
 
     private static void promise6Build() {
         InducedSorter x = new InducedSorter(8, 26);
-        search(x, "a");
+        Letters.search(x, "a");
         Check.same("build() of the empty text", x.build(), false);
-        textIsEmpty("build() of the empty text", x);
-        nothingIsBuilt("build() of the empty text", x);
-        feed(x, "banana");
+        Answers.textIsEmpty("build() of the empty text", x);
+        Answers.nothingIsBuilt("build() of the empty text", x);
+        Letters.feed(x, "banana");
         Check.same("build()", x.build(), true);
-        List<Object> before = view(x);
-        unchanged("looking twice", x, before);
+        List<Object> before = Answers.view(x);
+        Answers.unchanged("looking twice", x, before);
         Check.same("build() when built", x.build(), true);
-        unchanged("build() when built", x, before);
+        Answers.unchanged("build() when built", x, before);
         Check.same("count() with the pattern kept over build()", x.count(), 3);
-        feed(x, "s");
+        Letters.feed(x, "s");
         Check.same("build() of the longer text", x.build(), true);
         String[] texts = {"bananas", "a", "aa", "ab", "ba", "mississippi", "abracadabra", "aaaaaaaa", "zyxwvu",
             "abcabcabcabc", "aabaabaaab", "zazazazaza", "cbacbacbaabc"};
@@ -262,7 +202,7 @@ public final class PromiseTest {
     }
 
     private static void indexHolds(String text, String pattern) {
-        InducedSorter x = searching(text, pattern);
+        InducedSorter x = Letters.searching(text, pattern);
         String where = "T=" + text + " P=" + pattern;
         int n = text.length();
         boolean[] seen = new boolean[n];
@@ -326,47 +266,45 @@ public final class PromiseTest {
     }
 
     private static void promise8SuffixAt() {
-        InducedSorter x = holding("banana");
-        nothingIsBuilt("before build()", x);
+        InducedSorter x = Letters.holding("banana");
+        Answers.nothingIsBuilt("before build()", x);
         x.build();
         answersAre("suffixAt", x, new int[] {5, 3, 1, 0, 4, 2});
-        feed(x, "n");
-        nothingIsBuilt("after append", x);
+        Letters.feed(x, "n");
+        Answers.nothingIsBuilt("after append", x);
         x.build();
         answersAre("suffixAt", x, new int[] {5, 3, 1, 0, 6, 4, 2});
-        answersAre("suffixAt", built("q"), new int[] {0});
-        answersAre("suffixAt", built("dcba"), new int[] {3, 2, 1, 0});
-        answersAre("suffixAt", built("abcd"), new int[] {0, 1, 2, 3});
-        answersAre("suffixAt", built("mississippi"), new int[] {10, 7, 4, 1, 0, 9, 8, 6, 3, 5, 2});
+        answersAre("suffixAt", Letters.built("q"), new int[] {0});
+        answersAre("suffixAt", Letters.built("dcba"), new int[] {3, 2, 1, 0});
+        answersAre("suffixAt", Letters.built("abcd"), new int[] {0, 1, 2, 3});
+        answersAre("suffixAt", Letters.built("mississippi"), new int[] {10, 7, 4, 1, 0, 9, 8, 6, 3, 5, 2});
     }
 
     private static void answersAre(String method, InducedSorter x, int[] due) {
-        List<Object> before = view(x);
-        for (int a : WIDE) {
-            int got = method.equals("suffixAt") ? x.suffixAt(a)
-                : method.equals("rankOf") ? x.rankOf(a)
-                : method.equals("lcpAt") ? x.lcpAt(a)
-                : x.locate(a);
-            Check.same(method + "(" + a + ")", got, a >= 0 && a < due.length ? due[a] : NONE);
-        }
-        unchanged(method, x, before);
+        List<Object> before = Answers.view(x);
+        IntUnaryOperator asked = method.equals("suffixAt") ? x::suffixAt
+            : method.equals("rankOf") ? x::rankOf
+            : method.equals("lcpAt") ? x::lcpAt
+            : x::locate;
+        Answers.are(method, asked, due);
+        Answers.unchanged(method, x, before);
     }
 
     private static void promise9RankOf() {
-        answersAre("rankOf", holding("banana"), new int[] {});
-        answersAre("rankOf", built("banana"), new int[] {3, 2, 5, 1, 4, 0});
-        answersAre("rankOf", built("q"), new int[] {0});
-        answersAre("rankOf", built("aaaa"), new int[] {3, 2, 1, 0});
-        answersAre("rankOf", built("mississippi"), new int[] {4, 3, 10, 8, 2, 9, 7, 1, 6, 5, 0});
+        answersAre("rankOf", Letters.holding("banana"), new int[] {});
+        answersAre("rankOf", Letters.built("banana"), new int[] {3, 2, 5, 1, 4, 0});
+        answersAre("rankOf", Letters.built("q"), new int[] {0});
+        answersAre("rankOf", Letters.built("aaaa"), new int[] {3, 2, 1, 0});
+        answersAre("rankOf", Letters.built("mississippi"), new int[] {4, 3, 10, 8, 2, 9, 7, 1, 6, 5, 0});
     }
 
     private static void promise10LcpAt() {
-        answersAre("lcpAt", holding("banana"), new int[] {});
-        answersAre("lcpAt", built("banana"), new int[] {0, 1, 3, 0, 0, 2});
-        answersAre("lcpAt", built("q"), new int[] {0});
-        answersAre("lcpAt", built("abcd"), new int[] {0, 0, 0, 0});
-        answersAre("lcpAt", built("aaaa"), new int[] {0, 1, 2, 3});
-        answersAre("lcpAt", built("mississippi"), new int[] {0, 1, 1, 4, 0, 0, 1, 0, 2, 1, 3});
+        answersAre("lcpAt", Letters.holding("banana"), new int[] {});
+        answersAre("lcpAt", Letters.built("banana"), new int[] {0, 1, 3, 0, 0, 2});
+        answersAre("lcpAt", Letters.built("q"), new int[] {0});
+        answersAre("lcpAt", Letters.built("abcd"), new int[] {0, 0, 0, 0});
+        answersAre("lcpAt", Letters.built("aaaa"), new int[] {0, 1, 2, 3});
+        answersAre("lcpAt", Letters.built("mississippi"), new int[] {0, 1, 1, 4, 0, 0, 1, 0, 2, 1, 3});
         InducedSorter full = new InducedSorter(128, 1);
         for (int i = 0; i < 128; i++) {
             full.append(0);
@@ -382,40 +320,40 @@ public final class PromiseTest {
     }
 
     private static void promise11PatClear() {
-        InducedSorter x = searching("banana", "nan");
+        InducedSorter x = Letters.searching("banana", "nan");
         Check.same("count()", x.count(), 1);
         x.patClear();
         Check.same("count() after patClear()", x.count(), 6);
         Check.same("rangeStart() after patClear()", x.rangeStart(), 0);
         Check.same("isBuilt() after patClear()", x.isBuilt(), true);
         answersAre("locate", x, new int[] {0, 1, 2, 3, 4, 5});
-        List<Object> before = view(x);
+        List<Object> before = Answers.view(x);
         x.patClear();
-        unchanged("patClear() of the empty pattern", x, before);
+        Answers.unchanged("patClear() of the empty pattern", x, before);
 
-        InducedSorter y = holding("ab");
-        search(y, "ab");
+        InducedSorter y = Letters.holding("ab");
+        Letters.search(y, "ab");
         y.patClear();
-        nothingIsBuilt("patClear() before build()", y);
+        Answers.nothingIsBuilt("patClear() before build()", y);
         Check.same("length() after patClear()", y.length(), 2);
         y.build();
         Check.same("count() of the pattern cleared before build()", y.count(), 2);
 
         InducedSorter z = new InducedSorter(8, 2);
-        feed(z, "ab");
+        Letters.feed(z, "ab");
         z.build();
-        search(z, "abababab");
-        search(z, "babababa");
+        Letters.search(z, "abababab");
+        Letters.search(z, "babababa");
         Check.same("patAppend to the pattern filled again", z.patAppend(0), false);
     }
 
     private static void promise12PatAppend() {
-        InducedSorter x = searching("banana", "an");
-        List<Object> before = view(x);
-        int[] wrong = {-1, 26, 27, 64, MIN, MAX};
+        InducedSorter x = Letters.searching("banana", "an");
+        List<Object> before = Answers.view(x);
+        int[] wrong = {-1, 64, 65, 128, MIN, MAX};
         for (int s : wrong) {
             Check.same("patAppend(" + s + ")", x.patAppend(s), false);
-            unchanged("refused patAppend(" + s + ")", x, before);
+            Answers.unchanged("refused patAppend(" + s + ")", x, before);
         }
         Check.same("patAppend(0)", x.patAppend(0), true);
         Check.same("isBuilt() after patAppend", x.isBuilt(), true);
@@ -425,28 +363,28 @@ public final class PromiseTest {
         answersAre("locate", x, new int[] {1});
 
         InducedSorter full = new InducedSorter(8, 2);
-        search(full, "abababab");
+        Letters.search(full, "abababab");
         Check.same("patAppend to the full pattern, not built", full.patAppend(0), false);
-        nothingIsBuilt("patAppend to the full pattern", full);
-        feed(full, "abababab");
+        Answers.nothingIsBuilt("patAppend to the full pattern", full);
+        Letters.feed(full, "abababab");
         full.build();
-        List<Object> whenBuilt = view(full);
+        List<Object> whenBuilt = Answers.view(full);
         Check.same("count() of the full pattern", full.count(), 1);
         Check.same("patAppend(0) to the full pattern", full.patAppend(0), false);
         Check.same("patAppend(2) to the full pattern", full.patAppend(2), false);
-        unchanged("patAppend to the full pattern", full, whenBuilt);
+        Answers.unchanged("patAppend to the full pattern", full, whenBuilt);
     }
 
     private static void countIs(String text, String pattern, int due) {
-        InducedSorter x = searching(text, pattern);
-        List<Object> before = view(x);
+        InducedSorter x = Letters.searching(text, pattern);
+        List<Object> before = Answers.view(x);
         Check.same("count() of " + pattern + " in " + text, x.count(), due);
-        unchanged("count()", x, before);
+        Answers.unchanged("count()", x, before);
     }
 
     private static void promise13Count() {
-        InducedSorter x = holding("banana");
-        search(x, "a");
+        InducedSorter x = Letters.holding("banana");
+        Letters.search(x, "a");
         Check.same("count() before build()", x.count(), NONE);
         countIs("banana", "", 6);
         countIs("banana", "a", 3);
@@ -462,15 +400,15 @@ public final class PromiseTest {
     }
 
     private static void rangeStartIs(String text, String pattern, int due) {
-        InducedSorter x = searching(text, pattern);
-        List<Object> before = view(x);
+        InducedSorter x = Letters.searching(text, pattern);
+        List<Object> before = Answers.view(x);
         Check.same("rangeStart() of " + pattern + " in " + text, x.rangeStart(), due);
-        unchanged("rangeStart()", x, before);
+        Answers.unchanged("rangeStart()", x, before);
     }
 
     private static void promise14RangeStart() {
-        InducedSorter x = holding("banana");
-        search(x, "a");
+        InducedSorter x = Letters.holding("banana");
+        Letters.search(x, "a");
         Check.same("rangeStart() before build()", x.rangeStart(), NONE);
         rangeStartIs("banana", "", 0);
         rangeStartIs("banana", "a", 0);
@@ -491,32 +429,32 @@ public final class PromiseTest {
     }
 
     private static void promise15Locate() {
-        InducedSorter x = holding("banana");
-        search(x, "a");
+        InducedSorter x = Letters.holding("banana");
+        Letters.search(x, "a");
         answersAre("locate", x, new int[] {});
-        answersAre("locate", searching("banana", "a"), new int[] {1, 3, 5});
-        answersAre("locate", searching("banana", "ana"), new int[] {1, 3});
-        answersAre("locate", searching("banana", "na"), new int[] {2, 4});
-        answersAre("locate", searching("banana", "banana"), new int[] {0});
-        answersAre("locate", searching("banana", "q"), new int[] {});
-        answersAre("locate", searching("banana", "bananas"), new int[] {});
-        answersAre("locate", searching("banana", ""), new int[] {0, 1, 2, 3, 4, 5});
-        answersAre("locate", searching("aaaa", "aa"), new int[] {0, 1, 2});
-        answersAre("locate", searching("abcabxab", "ab"), new int[] {0, 3, 6});
+        answersAre("locate", Letters.searching("banana", "a"), new int[] {1, 3, 5});
+        answersAre("locate", Letters.searching("banana", "ana"), new int[] {1, 3});
+        answersAre("locate", Letters.searching("banana", "na"), new int[] {2, 4});
+        answersAre("locate", Letters.searching("banana", "banana"), new int[] {0});
+        answersAre("locate", Letters.searching("banana", "q"), new int[] {});
+        answersAre("locate", Letters.searching("banana", "bananas"), new int[] {});
+        answersAre("locate", Letters.searching("banana", ""), new int[] {0, 1, 2, 3, 4, 5});
+        answersAre("locate", Letters.searching("aaaa", "aa"), new int[] {0, 1, 2});
+        answersAre("locate", Letters.searching("abcabxab", "ab"), new int[] {0, 3, 6});
     }
 
     private static void distinctIs(String text, int due) {
-        InducedSorter x = built(text);
-        List<Object> before = view(x);
+        InducedSorter x = Letters.built(text);
+        List<Object> before = Answers.view(x);
         Check.same("distinctSubstrings() of " + text, x.distinctSubstrings(), due);
-        search(x, "a");
+        Letters.search(x, "a");
         Check.same("distinctSubstrings() with a pattern", x.distinctSubstrings(), due);
         x.patClear();
-        unchanged("distinctSubstrings()", x, before);
+        Answers.unchanged("distinctSubstrings()", x, before);
     }
 
     private static void promise16DistinctSubstrings() {
-        Check.same("distinctSubstrings() before build()", holding("banana").distinctSubstrings(), NONE);
+        Check.same("distinctSubstrings() before build()", Letters.holding("banana").distinctSubstrings(), NONE);
         distinctIs("banana", 15);
         distinctIs("mississippi", 53);
         distinctIs("a", 1);
@@ -536,17 +474,17 @@ public final class PromiseTest {
     }
 
     private static void repeatIs(String text, int due) {
-        InducedSorter x = built(text);
-        List<Object> before = view(x);
+        InducedSorter x = Letters.built(text);
+        List<Object> before = Answers.view(x);
         Check.same("longestRepeat() of " + text, x.longestRepeat(), due);
-        search(x, "a");
+        Letters.search(x, "a");
         Check.same("longestRepeat() with a pattern", x.longestRepeat(), due);
         x.patClear();
-        unchanged("longestRepeat()", x, before);
+        Answers.unchanged("longestRepeat()", x, before);
     }
 
     private static void promise17LongestRepeat() {
-        Check.same("longestRepeat() before build()", holding("banana").longestRepeat(), NONE);
+        Check.same("longestRepeat() before build()", Letters.holding("banana").longestRepeat(), NONE);
         repeatIs("banana", 3);
         repeatIs("mississippi", 4);
         repeatIs("a", 0);
@@ -555,20 +493,20 @@ public final class PromiseTest {
         repeatIs("aa", 1);
         repeatIs("aaaaa", 4);
         repeatIs("abcxabcyabcd", 3);
-        InducedSorter x = built("zzzzzzzz");
+        InducedSorter x = Letters.built("zzzzzzzz");
         x.clear();
-        feed(x, "abc");
+        Letters.feed(x, "abc");
         x.build();
         Check.same("longestRepeat() after a text with more repeats", x.longestRepeat(), 0);
         Check.same("distinctSubstrings() after a text with more repeats", x.distinctSubstrings(), 6);
     }
 
     private static void promisesAreKeptByEachObjectAlone() {
-        InducedSorter x = searching("banana", "ana");
-        List<Object> before = view(x);
-        InducedSorter y = searching("mississippi", "issi");
+        InducedSorter x = Letters.searching("banana", "ana");
+        List<Object> before = Answers.view(x);
+        InducedSorter y = Letters.searching("mississippi", "issi");
         y.clear();
         y.patClear();
-        unchanged("another object", x, before);
+        Answers.unchanged("another object", x, before);
     }
 }
