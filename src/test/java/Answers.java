@@ -50,6 +50,35 @@ final class Answers {
         return of(x, WIDE);
     }
 
+    /** One kind of answer of an object. */
+    interface Look {
+        List<Object> at(InducedSorter x);
+    }
+
+    /** A look for each method that only answers. */
+    static List<Look> looks() {
+        return List.of(
+            x -> List.of("length " + x.length()),
+            x -> List.of("isBuilt " + x.isBuilt()),
+            x -> List.of("count " + x.count()),
+            x -> List.of("rangeStart " + x.rangeStart()),
+            x -> List.of("distinctSubstrings " + x.distinctSubstrings()),
+            x -> List.of("longestRepeat " + x.longestRepeat()),
+            x -> each("symbolAt", x::symbolAt),
+            x -> each("suffixAt", x::suffixAt),
+            x -> each("rankOf", x::rankOf),
+            x -> each("lcpAt", x::lcpAt),
+            x -> each("locate", x::locate));
+    }
+
+    private static List<Object> each(String name, IntUnaryOperator method) {
+        List<Object> all = new ArrayList<>();
+        for (int a : WIDE) {
+            all.add(name + "(" + a + ") " + method.applyAsInt(a));
+        }
+        return all;
+    }
+
     /** Compares one by one, so that a failure names the call and not the whole list. */
     static void compare(String where, List<Object> got, List<Object> due) {
         Check.same(where + ": number of answers", got.size(), due.size());

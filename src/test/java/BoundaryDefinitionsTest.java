@@ -79,6 +79,8 @@ public final class BoundaryDefinitionsTest {
         Sentence.holds(DEFINITIONS, "where 0 <= m <= capacity", BoundaryDefinitionsTest::patternIsEmptyToFull);
         Sentence.holds(DEFINITIONS, "an int s with 0 <= s < sigma", BoundaryDefinitionsTest::symbolsAreBelowSigma);
         Sentence.holds(DEFINITIONS, "Symbols are compared as ints.", BoundaryDefinitionsTest::symbolsCompareAsInts);
+        Sentence.holds(DEFINITIONS, "(0 <= i < n): the sequence T[i..n-1].",
+            BoundaryDefinitionsTest::suffixesReachTheEnd);
         Sentence.holds(DEFINITIONS, "It is never empty.", BoundaryDefinitionsTest::noSuffixIsEmpty);
     }
 
@@ -139,6 +141,17 @@ public final class BoundaryDefinitionsTest {
         }
     }
 
+    private static void suffixesReachTheEnd() {
+        // The first suffix is the whole text, the last one is its last symbol.
+        Check.same("count() of the whole text", Letters.searching("abcab", "abcab").count(), 1);
+        Check.same("rankOf(0) of a text with its last symbol last", Letters.built("aab").rankOf(0), 0);
+        Check.same("rankOf(2) of a text with its last symbol last", Letters.built("aab").rankOf(2), 2);
+        Check.same("rankOf(127), a last symbol that is the greatest",
+            Letters.built("a".repeat(127) + "b").rankOf(127), 127);
+        Check.same("rankOf(127), a last symbol that is the least",
+            Letters.built("b".repeat(127) + "a").rankOf(127), 0);
+    }
+
     private static void noSuffixIsEmpty() {
         InducedSorter x = Letters.built("ba");
         // An empty suffix would be the smallest of all, and start at n.
@@ -160,8 +173,9 @@ public final class BoundaryDefinitionsTest {
             BoundaryDefinitionsTest::equalIsNotSmaller);
         Sentence.holds(DEFINITIONS, "the greatest L such that X and Y both have at least L symbols"
             + " and X[k] == Y[k] for all k < L", BoundaryDefinitionsTest::lcpEndsWithTheShorterOrAtTheFirstDifference);
-        Sentence.holds(DEFINITIONS, "the ranks being the positions of the suffixes when all n suffixes"
-            + " are put in increasing ORDER", BoundaryDefinitionsTest::ranksIncreaseFromZero);
+        Sentence.holds(DEFINITIONS, "when B is true, SA[r] for 0 <= r < n is the start of the suffix of rank r,"
+            + " the ranks being the positions of the suffixes when all n suffixes are put in increasing ORDER.",
+            BoundaryDefinitionsTest::ranksIncreaseFromZero);
         Sentence.holds(DEFINITIONS, "All suffixes are distinct (their lengths differ), so SA is unique.",
             BoundaryDefinitionsTest::repeatingTextsHaveOneOrder);
     }
@@ -347,7 +361,7 @@ public final class BoundaryDefinitionsTest {
         for (int s : new int[] {MIN, -1, state.sigma(), 64, MAX}) {
             x.append(s);
         }
-        if (state.text().length() == state.capacity()) {
+        if (state.textIsFull()) {
             x.append(0);
         }
     }
@@ -380,17 +394,11 @@ public final class BoundaryDefinitionsTest {
 
     private static void refusedCallsChangeNothing() {
         for (State state : State.all()) {
-            InducedSorter x = state.make();
-            refusedAppends(x, state);
-            state.isWhere("refused append", x);
-            InducedSorter y = state.make();
-            refusedPatAppends(y, state);
-            state.isWhere("refused patAppend", y);
-            InducedSorter z = state.make();
+            state.staysAfter("refused append", x -> refusedAppends(x, state));
+            state.staysAfter("refused patAppend", x -> refusedPatAppends(x, state));
             if (state.text().isEmpty()) {
-                z.build();
+                state.staysAfter("refused build()", InducedSorter::build);
             }
-            state.isWhere("refused build()", z);
         }
     }
 
@@ -398,7 +406,7 @@ public final class BoundaryDefinitionsTest {
         for (int s : new int[] {MIN, -1, state.sigma(), 64, MAX}) {
             x.patAppend(s);
         }
-        if (state.pattern().length() == state.capacity()) {
+        if (state.patternIsFull()) {
             x.patAppend(0);
         }
     }

@@ -59,13 +59,12 @@ public final class BoundaryIndexTest {
     private static void refusedBuildChangesNothing() {
         for (State state : State.all()) {
             State empty = state.withText("").withBuilt(false);
-            InducedSorter x = empty.make();
-            x.build();
-            x.build();
-            empty.isWhere("refused build()", x);
-            InducedSorter y = empty.makeAfterOthers();
-            y.build();
-            empty.isWhere("refused build() after other texts", y);
+            empty.staysAfter("refused build()", InducedSorter::build);
+            empty.isWhere("other texts, then a refused build()", () -> {
+                InducedSorter x = empty.makeAfterOthers();
+                x.build();
+                return x;
+            });
         }
     }
 
@@ -93,7 +92,7 @@ public final class BoundaryIndexTest {
                 Check.same("build() when built, " + state, x.build(), true);
                 Answers.unchanged("build() when built, " + state, x, before);
             }
-            state.isWhere("build() when built", x);
+            state.staysAfter("build() when built", InducedSorter::build);
         }
     }
 

@@ -37,13 +37,12 @@ public final class BoundaryPatternTest {
 
     private static void patClearIsNeverRefused() {
         for (State state : State.all()) {
-            InducedSorter once = state.make();
-            once.patClear();
-            state.withPattern("").isWhere("patClear()", once);
-            InducedSorter twice = state.make();
-            twice.patClear();
-            twice.patClear();
-            state.withPattern("").isWhere("patClear() twice", twice);
+            State due = state.withPattern("");
+            state.becomes(due, "patClear()", InducedSorter::patClear);
+            state.becomes(due, "patClear() twice", x -> {
+                x.patClear();
+                x.patClear();
+            });
         }
     }
 
@@ -101,12 +100,12 @@ public final class BoundaryPatternTest {
 
     private static void wrongSymbolForFullPatternIsRefused() {
         for (State state : State.all()) {
-            if (state.pattern().length() == state.capacity()) {
-                InducedSorter x = state.make();
-                for (int s : wrongSymbols(state.sigma())) {
-                    Check.same("patAppend(" + s + ") to the full " + state, x.patAppend(s), false);
-                }
-                state.isWhere("wrong patAppend to a full pattern", x);
+            if (state.patternIsFull()) {
+                state.staysAfter("patAppend of a wrong symbol to a full pattern", x -> {
+                    for (int s : wrongSymbols(state.sigma())) {
+                        Check.same("patAppend(" + s + ") to the full " + state, x.patAppend(s), false);
+                    }
+                });
             }
         }
     }
@@ -149,10 +148,10 @@ public final class BoundaryPatternTest {
         Check.same("count() of the whole text", x.count(), 1);
         Check.same("room left in P", State.roomInPattern(x), 0);
         for (State state : State.all()) {
-            InducedSorter y = state.make();
-            if (state.pattern().length() < state.capacity()) {
-                Check.same("patAppend to " + state, y.patAppend(state.sigma() - 1), true);
-                state.withPattern(state.pattern() + Letters.of(state.sigma() - 1)).isWhere("patAppend", y);
+            if (!state.patternIsFull()) {
+                int s = state.sigma() - 1;
+                state.becomes(state.withPattern(state.pattern() + Letters.of(s)), "patAppend",
+                    y -> Check.same("patAppend(" + s + ") to " + state, y.patAppend(s), true));
             }
         }
     }
@@ -176,15 +175,13 @@ public final class BoundaryPatternTest {
 
     private static void refusedPatAppendChangesNothing() {
         for (State state : State.all()) {
-            InducedSorter x = state.make();
             for (int s : wrongSymbols(state.sigma())) {
-                x.patAppend(s);
+                state.staysAfter("patAppend(" + s + ")", x -> x.patAppend(s));
             }
-            if (state.pattern().length() == state.capacity()) {
-                x.patAppend(0);
-                x.patAppend(state.sigma() - 1);
+            if (state.patternIsFull()) {
+                state.staysAfter("patAppend(0) to a full pattern", x -> x.patAppend(0));
+                state.staysAfter("patAppend(sigma - 1) to a full pattern", x -> x.patAppend(state.sigma() - 1));
             }
-            state.isWhere("refused patAppend", x);
         }
     }
 
@@ -272,7 +269,8 @@ public final class BoundaryPatternTest {
             InducedSorter x = state.make();
             int n = state.text().length();
             Check.within("count() at " + state, x.count(), 0, n);
-            while (x.patAppend(0)) {
+            for (int m = state.pattern().length(); m < state.capacity(); m++) {
+                x.patAppend(0);
                 Check.within("count() of a longer pattern at " + state, x.count(), 0, n);
             }
             x.patClear();
@@ -371,9 +369,11 @@ public final class BoundaryPatternTest {
         rangeStartIs("b".repeat(127), "a".repeat(128), 0);
         for (State state : State.allBuilt()) {
             InducedSorter x = state.make();
-            do {
-                Check.within("rangeStart() at " + state, x.rangeStart(), 0, state.text().length());
-            } while (x.patAppend(state.sigma() - 1));
+            Check.within("rangeStart() at " + state, x.rangeStart(), 0, state.text().length());
+            for (int m = state.pattern().length(); m < state.capacity(); m++) {
+                x.patAppend(state.sigma() - 1);
+                Check.within("rangeStart() of a longer pattern at " + state, x.rangeStart(), 0, state.text().length());
+            }
         }
     }
 

@@ -199,7 +199,7 @@ public final class BoundarySubstringsTest {
             InducedSorter x = state.make();
             Check.same("build() when built, " + state, x.build(), true);
             Check.same("build() once more, " + state, x.build(), true);
-            state.isWhere("build() when built", x);
+            state.staysAfter("build() when built", InducedSorter::build);
         }
     }
 
@@ -225,12 +225,12 @@ public final class BoundarySubstringsTest {
 
     private static void earlierIndexIsNotSeen() {
         for (State state : State.all()) {
-            state.isWhere("other texts and patterns", state.makeAfterOthers());
+            state.isWhere("other texts and patterns", state::makeAfterOthers);
         }
         for (State state : State.allBuilt()) {
-            InducedSorter x = state.make();
-            if (x.append(0)) {
-                state.withText(state.text() + "a").withBuilt(false).isWhere("build() and append(0)", x);
+            if (!state.textIsFull()) {
+                State longer = state.withText(state.text() + "a").withBuilt(false);
+                state.becomes(longer, "append(0)", x -> x.append(0));
             }
         }
     }

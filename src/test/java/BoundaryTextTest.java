@@ -221,9 +221,7 @@ public final class BoundaryTextTest {
 
     private static void clearKeepsThePattern() {
         for (State state : State.all()) {
-            InducedSorter x = state.make();
-            x.clear();
-            state.withText("").withBuilt(false).isWhere("clear()", x);
+            state.becomes(state.withText("").withBuilt(false), "clear()", InducedSorter::clear);
         }
         InducedSorter x = Letters.searching("abab", "ab");
         x.clear();
@@ -247,21 +245,26 @@ public final class BoundaryTextTest {
     }
 
     private static void clearIsTheSameFromEverywhere() {
-        List<InducedSorter> cleared = new ArrayList<>();
-        cleared.add(new State(8, 2, "", "ab", false).make());
-        cleared.add(new State(8, 2, "a", "ab", false).make());
-        cleared.add(new State(8, 2, "a", "ab", true).make());
-        cleared.add(new State(8, 2, "abababab", "ab", false).make());
-        cleared.add(new State(8, 2, "abababab", "ab", true).make());
-        cleared.add(new State(8, 2, "", "ab", false).makeAfterOthers());
-        for (InducedSorter x : cleared) {
-            x.clear();
-            new State(8, 2, "", "ab", false).isWhere("clear()", x);
+        State due = new State(8, 2, "", "ab", false);
+        for (String text : new String[] {"", "a", "abababab"}) {
+            State before = due.withText(text);
+            before.becomes(due, "clear()", InducedSorter::clear);
+            before.becomes(due, "clear() twice", BoundaryTextTest::clearTwice);
+            if (!text.isEmpty()) {
+                before.withBuilt(true).becomes(due, "clear()", InducedSorter::clear);
+                before.withBuilt(true).becomes(due, "clear() twice", BoundaryTextTest::clearTwice);
+            }
         }
-        InducedSorter twice = new State(8, 2, "ab", "ab", true).make();
-        twice.clear();
-        twice.clear();
-        new State(8, 2, "", "ab", false).isWhere("clear() twice", twice);
+        due.isWhere("other texts, then clear()", () -> {
+            InducedSorter x = due.makeAfterOthers();
+            x.clear();
+            return x;
+        });
+    }
+
+    private static void clearTwice(InducedSorter x) {
+        x.clear();
+        x.clear();
     }
 
     private static void clearedObjectShowsNoText() {
@@ -314,12 +317,12 @@ public final class BoundaryTextTest {
 
     private static void wrongSymbolForFullTextIsRefused() {
         for (State state : State.all()) {
-            if (state.text().length() == state.capacity()) {
-                InducedSorter x = state.make();
-                for (int s : wrongSymbols(state.sigma())) {
-                    Check.same("append(" + s + ") to the full " + state, x.append(s), false);
-                }
-                state.isWhere("wrong append to a full text", x);
+            if (state.textIsFull()) {
+                state.staysAfter("append of a wrong symbol to a full text", x -> {
+                    for (int s : wrongSymbols(state.sigma())) {
+                        Check.same("append(" + s + ") to the full " + state, x.append(s), false);
+                    }
+                });
             }
         }
     }
@@ -366,15 +369,13 @@ public final class BoundaryTextTest {
 
     private static void refusedAppendChangesNothing() {
         for (State state : State.all()) {
-            InducedSorter x = state.make();
             for (int s : wrongSymbols(state.sigma())) {
-                x.append(s);
+                state.staysAfter("append(" + s + ")", x -> x.append(s));
             }
-            if (state.text().length() == state.capacity()) {
-                x.append(0);
-                x.append(state.sigma() - 1);
+            if (state.textIsFull()) {
+                state.staysAfter("append(0) to a full text", x -> x.append(0));
+                state.staysAfter("append(sigma - 1) to a full text", x -> x.append(state.sigma() - 1));
             }
-            state.isWhere("refused append", x);
         }
     }
 
@@ -386,7 +387,7 @@ public final class BoundaryTextTest {
                 x.append(s);
                 Check.same("isBuilt() after append(" + s + ") to " + state, x.isBuilt(), true);
             }
-            if (state.text().length() == state.capacity()) {
+            if (state.textIsFull()) {
                 x.append(0);
                 Check.same("isBuilt() after append(0) to the full " + state, x.isBuilt(), true);
             }
@@ -396,10 +397,9 @@ public final class BoundaryTextTest {
 
     private static void appendKeepsWhatIsThere() {
         for (State state : State.all()) {
-            InducedSorter x = state.make();
-            if (x.append(state.sigma() - 1)) {
+            if (!state.textIsFull()) {
                 String longer = state.text() + Letters.of(state.sigma() - 1);
-                state.withText(longer).withBuilt(false).isWhere("append", x);
+                state.becomes(state.withText(longer).withBuilt(false), "append", x -> x.append(state.sigma() - 1));
             }
         }
         InducedSorter x = new InducedSorter(128, 64);

@@ -1,6 +1,7 @@
 import java.util.ArrayList;
 import java.util.List;
 import java.util.function.Consumer;
+import java.util.function.Supplier;
 
 /**
  * How an object can stand, with a way to bring a new one there. Two objects that
@@ -9,7 +10,7 @@ import java.util.function.Consumer;
  */
 record State(int capacity, int sigma, String text, String pattern, boolean built) {
 
-    /** Text and pattern empty, shortest, one below full and full, built and not, in the smallest and the widest object. */
+    /** Text and pattern empty, short, one below full and full, built and not, in the smallest and the widest object. */
     static List<State> all() {
         List<State> states = new ArrayList<>();
         for (String text : new String[] {"", "a", "bababba", "abbababa"}) {
@@ -39,9 +40,17 @@ record State(int capacity, int sigma, String text, String pattern, boolean built
     private static String scattered(int n) {
         int[] symbols = new int[n];
         for (int i = 0; i < n; i++) {
-            symbols[i] = i * i * 37 % 64;
+            symbols[i] = (i * i + 3) * 37 % 64;
         }
         return Letters.of(symbols);
+    }
+
+    boolean textIsFull() {
+        return text.length() == capacity;
+    }
+
+    boolean patternIsFull() {
+        return pattern.length() == capacity;
     }
 
     State withText(String other) {
@@ -84,44 +93,56 @@ record State(int capacity, int sigma, String text, String pattern, boolean built
         }
     }
 
-    /** Uses x up: it is not at this state any more afterwards. */
-    void isWhere(String where, InducedSorter x) {
-        Answers.compare(where + ", then " + this, everything(x), everything(make()));
-    }
-
     static void changesNothing(String call, Consumer<InducedSorter> calls) {
         for (State state : all()) {
-            InducedSorter x = state.make();
-            calls.accept(x);
-            state.isWhere(call, x);
+            state.staysAfter(call, calls);
         }
     }
 
-    private List<Object> everything(InducedSorter x) {
-        List<Object> all = new ArrayList<>(Answers.view(x));
-        all.add("build() " + x.build());
-        all.addAll(Answers.view(x));
-        addPattern(all, x);
-        addBounds(all, x);
-        return all;
+    void staysAfter(String call, Consumer<InducedSorter> calls) {
+        becomes(this, call, calls);
     }
 
-    /** With the pattern as its text an object tells whether the pattern is still that one. */
-    private void addPattern(List<Object> all, InducedSorter x) {
-        x.clear();
+    void becomes(State due, String call, Consumer<InducedSorter> calls) {
+        due.isWhere(call + " at " + this, () -> {
+            InducedSorter x = make();
+            calls.accept(x);
+            return x;
+        });
+    }
+
+    /** Makes an object for every look, since the look itself might wipe out the difference. */
+    void isWhere(String where, Supplier<InducedSorter> maker) {
+        for (Answers.Look look : Answers.looks()) {
+            alike(where, look, maker.get(), make());
+            alike(where + ", then build()", look, afterBuild(maker.get()), afterBuild(make()));
+            alike(where + ", then P as T", look, withPatternAsText(maker.get()), withPatternAsText(make()));
+        }
+        Check.same(where + ", then room in P", roomInPattern(maker.get()), capacity - pattern.length());
+        Check.same(where + ", then room in T", roomInText(maker.get()), capacity - text.length());
+        Check.same(where + ", then symbols for P", symbolsOfPattern(maker.get()).size(), sigma);
+        Check.same(where + ", then symbols for T", symbolsOfText(maker.get()).size(), sigma);
+    }
+
+    private static void alike(String where, Answers.Look look, InducedSorter got, InducedSorter due) {
+        Answers.compare(where, look.at(got), look.at(due));
+    }
+
+    private static InducedSorter afterBuild(InducedSorter x) {
+        x.build();
+        return x;
+    }
+
+    /** In a text that is the pattern, an object tells whether the pattern is still that one. */
+    private InducedSorter withPatternAsText(InducedSorter x) {
+        // Without need clear() is not called: it is one of the calls that these objects are for.
+        if (!text.isEmpty()) {
+            x.clear();
+        }
         for (char c : pattern.toCharArray()) {
             x.append(c - 'a');
         }
-        x.build();
-        all.addAll(Answers.view(x));
-    }
-
-    private static void addBounds(List<Object> all, InducedSorter x) {
-        all.add("room left in the pattern " + roomInPattern(x));
-        all.add("symbols for the pattern " + symbolsOfPattern(x));
-        all.add("room in the empty pattern " + roomInPattern(x));
-        all.add("symbols for the text " + symbolsOfText(x));
-        all.add("room in the empty text " + roomInText(x));
+        return pattern.isEmpty() ? x : afterBuild(x);
     }
 
     /** Tries every number near a symbol, each on the empty text, and leaves the text empty. */
