@@ -290,6 +290,9 @@ public final class BoundaryDefinitionsTest {
     private static void answersDescribeTheCurrentText() {
         InducedSorter x = Letters.searching("aaaaaa", "a");
         Letters.feed(x, "b");
+        if (x.isBuilt()) {
+            currentIs("a longer text, built already", x, Letters.searching("aaaaaab", "a"));
+        }
         x.build();
         currentIs("a longer text", x, Letters.searching("aaaaaab", "a"));
         x.clear();

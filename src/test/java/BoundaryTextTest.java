@@ -1,5 +1,6 @@
 import java.util.ArrayList;
 import java.util.List;
+import java.util.function.Consumer;
 
 /** The sentences of promises 1 to 5 (construction and the text) that name a boundary case, a test for each. */
 public final class BoundaryTextTest {
@@ -158,26 +159,31 @@ public final class BoundaryTextTest {
     }
 
     private static void capacityAndSigmaStay() {
-        for (int[] given : new int[][] {{8, 1}, {8, 64}, {9, 2}, {127, 63}, {128, 1}, {128, 64}}) {
-            InducedSorter x = new InducedSorter(given[0], given[1]);
-            boundsAre("at first", x, given);
-            x.build();
-            boundsAre("after build()", x, given);
-            x.append(MAX);
-            x.append(MIN);
-            x.patAppend(MAX);
-            x.patAppend(MIN);
-            boundsAre("after refused calls", x, given);
-            Answers.view(x);
-            boundsAre("after looking", x, given);
+        for (State state : State.all()) {
+            boundsStay("clear()", state, InducedSorter::clear);
+            boundsStay("append(0)", state, x -> x.append(0));
+            boundsStay("append(64)", state, x -> x.append(64));
+            boundsStay("append(-1)", state, x -> x.append(-1));
+            boundsStay("build()", state, InducedSorter::build);
+            boundsStay("patClear()", state, InducedSorter::patClear);
+            boundsStay("patAppend(0)", state, x -> x.patAppend(0));
+            boundsStay("patAppend(64)", state, x -> x.patAppend(64));
+            boundsStay("patAppend(-1)", state, x -> x.patAppend(-1));
+            boundsStay("looking", state, Answers::view);
         }
     }
 
-    private static void boundsAre(String where, InducedSorter x, int[] given) {
-        Check.same("symbols for T " + where, State.symbolsOfText(x).size(), given[1]);
-        Check.same("symbols for P " + where, State.symbolsOfPattern(x).size(), given[1]);
-        Check.same("room for T " + where, State.roomInText(x), given[0]);
-        Check.same("room for P " + where, State.roomInPattern(x), given[0]);
+    private static void boundsStay(String call, State state, Consumer<InducedSorter> calls) {
+        InducedSorter x = state.make();
+        calls.accept(x);
+        boundsAre("after " + call + " at " + state, x, state.capacity(), state.sigma());
+    }
+
+    private static void boundsAre(String where, InducedSorter x, int capacity, int sigma) {
+        Check.same("symbols for T " + where, State.symbolsOfText(x).size(), sigma);
+        Check.same("symbols for P " + where, State.symbolsOfPattern(x).size(), sigma);
+        Check.same("room for T " + where, State.roomInText(x), capacity);
+        Check.same("room for P " + where, State.roomInPattern(x), capacity);
     }
 
     private static void newObjectHasNoLengthAndNoIndex() {
@@ -236,11 +242,11 @@ public final class BoundaryTextTest {
             x.append(0);
             x.build();
             x.clear();
-            boundsAre("after clear()", x, given);
+            boundsAre("after clear()", x, given[0], given[1]);
             x.clear();
             x.clear();
             x.patClear();
-            boundsAre("after clear() twice", x, given);
+            boundsAre("after clear() twice", x, given[0], given[1]);
         }
     }
 

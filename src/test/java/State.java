@@ -18,6 +18,8 @@ record State(int capacity, int sigma, String text, String pattern, boolean built
                 addBothWays(states, new State(8, 2, text, pattern, false));
             }
         }
+        states.add(new State(9, 3, "", "cab", false));
+        states.add(new State(128, 64, "", scattered(5), false));
         addBothWays(states, new State(8, 1, "aaaaaaaa", "aaa", false));
         addBothWays(states, new State(9, 3, "cabcabca", "cabcabcab", false));
         addBothWays(states, new State(128, 64, scattered(127), scattered(2), false));
