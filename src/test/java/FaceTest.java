@@ -1,127 +1,104 @@
-import java.io.IOException;
 import java.lang.reflect.Constructor;
 import java.lang.reflect.Field;
 import java.lang.reflect.Method;
 import java.lang.reflect.Modifier;
-import java.nio.file.Files;
-import java.nio.file.Path;
-import java.util.ArrayList;
-import java.util.List;
 import java.util.Set;
 import java.util.TreeSet;
-import java.util.regex.Matcher;
-import java.util.regex.Pattern;
 
-/** The public face of the document, and those rules of LANGUAGE.md that can be read off the class or its source. */
+/** The public face: each line of it is there, and nothing else can be seen from outside. */
 public final class FaceTest {
     private static final Class<?> FACE = InducedSorter.class;
+    private static final String SECTION = "The public face";
+    private static final String CLASS_LINE = "public final class InducedSorter {";
 
-    public static void main(String[] args) throws IOException {
-        constants();
-        visibleMembers();
-        privateMembers();
-        source();
-        Check.end();
+    private static final String[] CONSTANTS = {
+        "public static final int NONE = -1;",
+        "public static final int MAX_CAPACITY = 128;",
+        "public static final int MAX_SIGMA = 64;"};
+
+    private static final String[] CALLS = {
+        "public InducedSorter(int capacity, int sigma)",
+        "public void clear()",
+        "public boolean append(int s)",
+        "public int length()",
+        "public int symbolAt(int i)",
+        "public boolean build()",
+        "public boolean isBuilt()",
+        "public int suffixAt(int r)",
+        "public int rankOf(int i)",
+        "public int lcpAt(int r)",
+        "public void patClear()",
+        "public boolean patAppend(int s)",
+        "public int count()",
+        "public int rangeStart()",
+        "public int locate(int k)",
+        "public int distinctSubstrings()",
+        "public int longestRepeat()"};
+
+    public static void main(String[] args) {
+        Sentence.holds(SECTION, CLASS_LINE, FaceTest::classIsPublicFinalAndAlone);
+        for (String line : CONSTANTS) {
+            Sentence.holds(SECTION, line, () -> Check.same("it is there", seenConstants().contains(line), true));
+        }
+        for (String line : CALLS) {
+            Sentence.holds(SECTION, line, () -> Check.same("it is there", seenCalls().contains(bare(line)), true));
+        }
+        nothingElseIsSeen();
+        Sentence.end();
     }
 
-    private static void constants() {
-        Check.same("NONE", InducedSorter.NONE, -1);
-        Check.same("MAX_CAPACITY", InducedSorter.MAX_CAPACITY, 128);
-        Check.same("MAX_SIGMA", InducedSorter.MAX_SIGMA, 64);
-    }
-
-    private static void visibleMembers() {
+    private static void classIsPublicFinalAndAlone() {
         Check.same("class", Modifier.toString(FACE.getModifiers()), "public final");
+        Check.same("package", FACE.getPackageName(), "");
         Check.same("parent", FACE.getSuperclass(), Object.class);
         Check.same("interfaces", FACE.getInterfaces().length, 0);
         Check.same("nested classes", FACE.getDeclaredClasses().length, 0);
-        Set<String> due = new TreeSet<>(List.of(
-            "public static final int InducedSorter.NONE",
-            "public static final int InducedSorter.MAX_CAPACITY",
-            "public static final int InducedSorter.MAX_SIGMA",
-            "public InducedSorter(int,int)",
-            "public void InducedSorter.clear()",
-            "public boolean InducedSorter.append(int)",
-            "public int InducedSorter.length()",
-            "public int InducedSorter.symbolAt(int)",
-            "public boolean InducedSorter.build()",
-            "public boolean InducedSorter.isBuilt()",
-            "public int InducedSorter.suffixAt(int)",
-            "public int InducedSorter.rankOf(int)",
-            "public int InducedSorter.lcpAt(int)",
-            "public void InducedSorter.patClear()",
-            "public boolean InducedSorter.patAppend(int)",
-            "public int InducedSorter.count()",
-            "public int InducedSorter.rangeStart()",
-            "public int InducedSorter.locate(int)",
-            "public int InducedSorter.distinctSubstrings()",
-            "public int InducedSorter.longestRepeat()"));
-        Set<String> got = new TreeSet<>();
-        for (Field f : FACE.getDeclaredFields()) {
-            addIfVisible(got, f.getModifiers(), f.toString());
+    }
+
+    private static void nothingElseIsSeen() {
+        Set<String> calls = new TreeSet<>();
+        for (String line : CALLS) {
+            calls.add(bare(line));
         }
+        Check.same("constructors and methods that are seen", seenCalls(), calls);
+        Check.same("fields that are seen", seenConstants(), new TreeSet<>(Set.of(CONSTANTS)));
+    }
+
+    /** The line as reflection tells it: without the names of the parameters. */
+    private static String bare(String line) {
+        return line.replaceAll("int \\w+([,)])", "int$1").replace(", ", ",");
+    }
+
+    private static Set<String> seenCalls() {
+        Set<String> seen = new TreeSet<>();
         for (Constructor<?> c : FACE.getDeclaredConstructors()) {
-            addIfVisible(got, c.getModifiers(), c.toString());
-        }
-        for (Method m : FACE.getDeclaredMethods()) {
-            addIfVisible(got, m.getModifiers(), m.toString());
-        }
-        Check.same("visible members", got, due);
-    }
-
-    private static void addIfVisible(Set<String> names, int modifiers, String name) {
-        if (!Modifier.isPrivate(modifiers)) {
-            names.add(name);
-        }
-    }
-
-    private static void privateMembers() {
-        Set<String> plain = Set.of("int", "long", "short", "byte", "char", "boolean",
-            "int[]", "long[]", "short[]", "byte[]", "char[]", "boolean[]", "void");
-        for (Field f : FACE.getDeclaredFields()) {
-            String type = f.getType().getSimpleName();
-            Check.same("plain type of field " + f.getName(), plain.contains(type), true);
-            if (Modifier.isStatic(f.getModifiers())) {
-                Check.same("static field " + f.getName() + " is final", Modifier.isFinal(f.getModifiers()), true);
-                Check.same("static field " + f.getName() + " is a number", type.equals("int") || type.equals("long"), true);
+            if (!Modifier.isPrivate(c.getModifiers())) {
+                seen.add(c.toString());
             }
         }
-        List<String> names = new ArrayList<>();
         for (Method m : FACE.getDeclaredMethods()) {
-            names.add(m.getName());
-            Check.same("parameters of " + m.getName() + " are few", m.getParameterCount() <= 7, true);
-            Check.same("plain answer of " + m.getName(), plain.contains(m.getReturnType().getSimpleName()), true);
-            Check.same("answer of " + m.getName() + " is an array", m.getReturnType().isArray(), false);
+            if (!Modifier.isPrivate(m.getModifiers())) {
+                seen.add(m.toString().replace("InducedSorter.", ""));
+            }
         }
-        Check.same("method names that are used twice", names.size() - new TreeSet<>(names).size(), 0);
+        return seen;
     }
 
-    private static void source() throws IOException {
-        String text = Files.readString(Path.of("src/main/java/InducedSorter.java"));
-        String code = text.replaceAll("(?s)/\\*.*?\\*/", " ").replaceAll("//[^\n]*", " ");
-        String[] ruledOut = {"package", "import", "throw", "throws", "try", "catch", "synchronized", "assert",
-            "instanceof", "null", "float", "double", "String", "Math", "Integer", "System", "Arrays", "Object",
-            "enum", "record", "interface", "protected"};
-        for (String word : ruledOut) {
-            boolean found = Pattern.compile("\\b" + word + "\\b").matcher(code).find();
-            Check.same("word '" + word + "' in the source", found, false);
+    private static Set<String> seenConstants() {
+        Set<String> seen = new TreeSet<>();
+        for (Field f : FACE.getDeclaredFields()) {
+            if (!Modifier.isPrivate(f.getModifiers())) {
+                seen.add(f.toString().replace("InducedSorter.", "") + " = " + valueOf(f) + ";");
+            }
         }
-        Check.same("lambda or method reference in the source", code.contains("->") || code.contains("::"), false);
-        arraysAreFieldsOfConstantLength(code);
+        return seen;
     }
 
-    private static void arraysAreFieldsOfConstantLength(String code) {
-        Pattern field = Pattern.compile("private final \\w+\\[\\] \\w+ = new \\w+\\[(MAX_\\w+|[1-9]\\d*)\\];");
-        Matcher made = Pattern.compile("\\bnew\\b").matcher(code);
-        int all = 0;
-        while (made.find()) {
-            all++;
+    private static Object valueOf(Field f) {
+        try {
+            return Modifier.isStatic(f.getModifiers()) ? f.get(null) : "a value of each object";
+        } catch (IllegalAccessException e) {
+            return "unseen";
         }
-        Matcher fields = field.matcher(code);
-        int inFields = 0;
-        while (fields.find()) {
-            inFields++;
-        }
-        Check.same("arrays made in fields, of all that is made", inFields, all);
     }
 }
