@@ -46,6 +46,16 @@ final class Answers {
         return all;
     }
 
+    static List<Object> ofPattern(InducedSorter x) {
+        List<Object> all = new ArrayList<>();
+        all.add("count " + x.count());
+        all.add("rangeStart " + x.rangeStart());
+        for (int k = -1; k <= x.length(); k++) {
+            all.add(x.locate(k));
+        }
+        return all;
+    }
+
     static List<Object> view(InducedSorter x) {
         return of(x, WIDE);
     }

@@ -121,8 +121,8 @@ public final class BoundaryTextTest {
 
     private static List<InducedSorter> newObjects() {
         List<InducedSorter> all = new ArrayList<>();
-        for (int capacity : new int[] {MIN, -1, 0, 7, 8, 9, 128, 129, MAX}) {
-            for (int sigma : new int[] {MIN, -1, 0, 1, 2, 64, 65, MAX}) {
+        for (int capacity : new int[] {MIN, -1, 0, 7, 8, 9, 127, 128, 129, MAX}) {
+            for (int sigma : new int[] {MIN, -1, 0, 1, 2, 63, 64, 65, MAX}) {
                 all.add(new InducedSorter(capacity, sigma));
             }
         }

@@ -87,7 +87,7 @@ final class Model {
         return shared;
     }
 
-    private List<Integer> occurrences() {
+    List<Integer> occurrences() {
         List<Integer> found = new ArrayList<>();
         int m = pattern.size();
         for (int i = 0; i < text.size() && i + m <= text.size(); i++) {
@@ -130,6 +130,18 @@ final class Model {
 
     private static int pick(List<Integer> from, int index) {
         return index >= 0 && index < from.size() ? from.get(index) : -1;
+    }
+
+    /** The pattern answers that are due now, in the form of {@link Answers#ofPattern}. */
+    List<Object> answersOfPattern() {
+        List<Integer> found = built ? occurrences() : Collections.emptyList();
+        List<Object> all = new ArrayList<>();
+        all.add("count " + (built ? found.size() : -1));
+        all.add("rangeStart " + (built ? smallerThanPattern() : -1));
+        for (int k = -1; k <= text.size(); k++) {
+            all.add(pick(found, k));
+        }
+        return all;
     }
 
     /** Every answer that is due now, in the form of {@link Answers#of}. */

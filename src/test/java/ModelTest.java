@@ -1,4 +1,5 @@
 import java.util.Arrays;
+import java.util.List;
 
 /** Runs the program beside the model and compares every answer. */
 public final class ModelTest {
@@ -8,11 +9,13 @@ public final class ModelTest {
     private static long state;
 
     public static void main(String[] args) {
-        allShortTexts(2, 7, 4);
-        allShortTexts(3, 4, 3);
+        allShortTexts(2, 8, 4);
+        allShortTexts(3, 5, 3);
+        allShortTexts(4, 4, 2);
         longTexts();
         patternsLongerThanTheText();
         mixedRuns();
+        searchesAtEveryCapacity();
         Check.end();
     }
 
@@ -193,5 +196,65 @@ public final class ModelTest {
             Check.same(where + " build()", x.build(), model.build());
         }
         Answers.compare(where, Answers.of(x, NARROW), model.answers(NARROW));
+    }
+
+    /** Every capacity, and with them every sigma; the texts repeat themselves, and most patterns are taken from them. */
+    private static void searchesAtEveryCapacity() {
+        for (int capacity = 8; capacity <= 128; capacity++) {
+            state = capacity;
+            int sigma = 1 + capacity % 64;
+            InducedSorter x = new InducedSorter(capacity, sigma);
+            Model model = new Model(capacity, sigma);
+            // One call more than there is room for, then a shorter text in the same object.
+            searchesIn(x, model, capacity + 1);
+            searchesIn(x, model, 1 + next(capacity));
+        }
+    }
+
+    private static void searchesIn(InducedSorter x, Model model, int calls) {
+        x.clear();
+        model.clear();
+        int period = 1 + next(9);
+        for (int i = 0; i < calls; i++) {
+            int s = repeatingSymbol(model, period);
+            Check.same("append(" + s + ")", x.append(s), model.append(s));
+        }
+        compare(x, model, WIDE);
+        Check.same("build()", x.build(), model.build());
+        compare(x, model, WIDE);
+        for (int search = 0; search < 3; search++) {
+            x.patClear();
+            model.patClear();
+            growPattern(x, model, next(2) == 0 ? 6 : model.capacity + 1);
+        }
+        compare(x, model, WIDE);
+    }
+
+    private static int repeatingSymbol(Model model, int period) {
+        int n = model.text.size();
+        return n >= period && next(16) > 0 ? model.text.get(n - period) : next(model.sigma);
+    }
+
+    private static void growPattern(InducedSorter x, Model model, int calls) {
+        for (int i = 0; i < calls; i++) {
+            int s = continuingSymbol(model);
+            Check.same("patAppend(" + s + ")", x.patAppend(s), model.patAppend(s));
+            Check.same("pattern answers with T=" + model.text + " P=" + model.pattern,
+                Answers.ofPattern(x), model.answersOfPattern());
+            Check.same("build() with P=" + model.pattern, x.build(), model.build());
+        }
+    }
+
+    /** Most often one with which the pattern still occurs. */
+    private static int continuingSymbol(Model model) {
+        List<Integer> places = model.occurrences();
+        int m = model.pattern.size();
+        if (!places.isEmpty() && next(24) > 0) {
+            int i = places.get(next(places.size()));
+            if (i + m < model.text.size()) {
+                return model.text.get(i + m);
+            }
+        }
+        return next(model.sigma);
     }
 }
